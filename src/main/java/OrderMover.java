@@ -441,7 +441,8 @@ public final class OrderMover {
     }
 
     private Base baseIn(int order) {
-        return currentIdeal().baseOf(order, setting);
+        ideal.bringUpToDate(setting);
+        return ideal.baseOf(order, setting);
     }
 
     private void moveSlotsToField() {
@@ -471,10 +472,10 @@ public final class OrderMover {
     }
 
     private void sumVectors(Polynomial polynomial) {
-        Ideal current = currentIdeal();
+        ideal.bringUpToDate(setting);
         clear(sum);
         for (int k = 0; k < polynomial.howMany; k++) {
-            current.vectorOfTerm(polynomial.xs[k], polynomial.ys[k], vector);
+            ideal.vectorOfTerm(polynomial.xs[k], polynomial.ys[k], vector);
             bringMultiple(sum, vector, polynomial.numbers[k], setting.p);
         }
     }
@@ -637,15 +638,17 @@ public final class OrderMover {
         }
 
         boolean isZeroAt(int of, int x, int y) {
+            int[] coefficients = coefficients(of);
+            int power = power(of);
             int value = 1;
-            for (int k = 0; k < power(of); k++) {
+            for (int k = 0; k < power; k++) {
                 value = leftOver(value * (of == 0 ? x : y), p);
             }
             int powerOfY = 1;
-            for (int j = 0; j < power(of); j++) {
+            for (int j = 0; j < power; j++) {
                 int both = powerOfY;
-                for (int i = 0; i < power(of) - j; i++) {
-                    value = leftOver(value + coefficient(of, i, j) * both, p);
+                for (int i = 0; i < power - j; i++) {
+                    value = leftOver(value + coefficients[MOST_POWER * j + i] * both, p);
                     both = leftOver(both * x, p);
                 }
                 powerOfY = leftOver(powerOfY * y, p);
@@ -675,7 +678,6 @@ public final class OrderMover {
         private static final int SIDE = 2 * MOST_POWER;
 
         int p;
-        int dimension;
         private int width;
         private int height;
         private final int[][] forms = new int[SIDE * SIDE][MOST_STAIRS];
@@ -684,7 +686,6 @@ public final class OrderMover {
         /** By rising degree, since F and G send a term to terms of lesser degree. */
         void build(Setting setting) {
             p = setting.p;
-            dimension = setting.dimension();
             width = setting.a;
             height = setting.b;
             for (int d = 0; d < width + height; d++) {
@@ -707,16 +708,19 @@ public final class OrderMover {
         }
 
         private void bringTail(Setting setting, int of, int i, int j, int[] form) {
-            for (int l = 0; l < setting.power(of); l++) {
-                for (int k = 0; k < setting.power(of) - l; k++) {
-                    int factor = leftOver(-setting.coefficient(of, k, l), p);
+            int[] coefficients = setting.coefficients(of);
+            int power = setting.power(of);
+            for (int l = 0; l < power; l++) {
+                for (int k = 0; k < power - l; k++) {
+                    int factor = leftOver(-coefficients[MOST_POWER * l + k], p);
                     bringMultiple(form, formAt(i + k, j + l), factor, p);
                 }
             }
         }
 
         private int[] formAt(int i, int j) {
-            return isWithin(i, 0, SIDE - 1) && isWithin(j, 0, SIDE - 1) ? forms[SIDE * j + i] : forms[0];
+            boolean inside = i >= 0 && i < SIDE && j >= 0 && j < SIDE;
+            return inside ? forms[SIDE * j + i] : forms[0];
         }
 
         void toOne(int[] into) {
@@ -1059,7 +1063,6 @@ public final class OrderMover {
         void readFrom(Members members, int power, int field) {
             p = field;
             high = Math.min(power, MOST_STAIRS);
-            clear(numbers);
             for (int k = 0; k < high; k++) {
                 numbers[k] = members.tails[0][k];
             }
@@ -1119,7 +1122,6 @@ public final class OrderMover {
 
         /** So, if it has no factor in common with its derivative. */
         boolean hasNoFactorTwice() {
-            clear(other);
             for (int k = 0; k <= high; k++) {
                 one[k] = numbers[k];
                 if (k > 0) {

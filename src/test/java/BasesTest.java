@@ -9,6 +9,7 @@ public final class BasesTest {
         plainShape();
         weightsDecide();
         threeMembers();
+        fewerMembers();
         degreesTieByLetter();
         tailsOfDegreeAreReduced();
         membersCanBeBare();
@@ -130,6 +131,16 @@ public final class BasesTest {
         Due.due("beyond the stairs", x.place(0, 1, 1), NONE);
         Due.due("far beyond the stairs", x.place(0, HIGHEST, HIGHEST), NONE);
         Due.due("a high power is 0", x.normal(0, 0, HIGHEST, 0), 0);
+    }
+
+    /** What a greater base left behind does not count. */
+    private static void fewerMembers() {
+        OrderMover x = three();
+        baseIs(x, 0, 3, 5, 4);
+        x.system(1, 1);
+        baseIs(x, 0, 2, 1, 0);
+        Due.due("the third is gone", x.member(0, 2, 0), BAD);
+        Due.due("no stair either", x.place(0, 1, 0), NONE);
     }
 
     private static void degreesTieByLetter() {

@@ -18,8 +18,9 @@ public final class FaceTest {
             + "tail:3 stair:3 normal:4 table:4 place:3 least:2 root:2 poly:1 keepBase:2 drop:1 add:4 term:3 size:1 "
             + "times:3 plus:3 degree:1 leads:2 reduce:2 belongs:1 stands:1 kept:2 image:1 goBack:1";
     private static final String CONSTANTS = "BAD:-1 NOT:-2 FULL:-3 NONE:-4 NULL:-11 CAST:-12 MUCH:-13";
-    private static final String FORBIDDEN = "throw throws try catch synchronized assert import package "
-            + "System Exact double float new_Random instanceof";
+    private static final String FORBIDDEN = "throw throws try catch synchronized assert package Random Thread Object";
+    private static final Set<String> IMPORTS = Set.of("java.util.ArrayList", "java.util.Arrays", "java.util.Iterator",
+            "java.util.List");
 
     public static void main(String[] args) throws Exception {
         constants();
@@ -60,7 +61,7 @@ public final class FaceTest {
         }
         Due.holds("methods are " + got, got.equals(want));
         for (String name : hidden) {
-            Due.holds("private " + name + " bears a public name", !METHODS.contains(name + ":"));
+            Due.holds("private " + name + " bears no public name", !(" " + METHODS).contains(" " + name + ":"));
         }
     }
 
@@ -71,7 +72,7 @@ public final class FaceTest {
             Due.holds(c + " is static and not public",
                     Modifier.isStatic(c.getModifiers()) && !Modifier.isPublic(c.getModifiers()));
             for (Method m : c.getDeclaredMethods()) {
-                Due.holds(c + " bears the public name " + m.getName(), !(" " + METHODS).contains(" " + m.getName() + ":"));
+                Due.holds(m + " bears no public name", !(" " + METHODS).contains(" " + m.getName() + ":"));
                 Due.holds(m + " takes at most seven", m.getParameterCount() <= 7);
             }
         }
@@ -80,9 +81,13 @@ public final class FaceTest {
     private static void forbiddenWords() throws Exception {
         String text = Files.readString(SOURCE).replaceAll("(?s)/\\*.*?\\*/", " ").replaceAll("//[^\n]*", " ");
         for (String word : FORBIDDEN.split(" ")) {
-            Matcher m = Pattern.compile("\\b" + word.replace('_', ' ') + "\\b").matcher(text);
-            Due.holds("the word " + word + " stands in the class", !m.find());
+            Matcher m = Pattern.compile("\\b" + word + "\\b").matcher(text);
+            Due.holds("the class is without the word " + word, !m.find());
         }
-        Due.holds("an arrow or a method reference stands in the class", !text.contains("->") && !text.contains("::"));
+        Matcher imports = Pattern.compile("\\bimport\\s+([\\w.*]+)").matcher(text);
+        while (imports.find()) {
+            Due.holds("import of " + imports.group(1), IMPORTS.contains(imports.group(1)));
+        }
+        Due.holds("the class is without arrows and method references", !text.contains("->") && !text.contains("::"));
     }
 }

@@ -5,7 +5,7 @@ import java.util.Random;
 
 /** Long runs of calls, drawn from fixed seeds, on the class and on the model: all answers are the same. */
 public final class ModelTest {
-    private static final int RUNS = 300, CALLS = 512;
+    private static final int RUNS = 200, CALLS = 512;
     private static final int[] PRIMES = {2, 3, 5, 7, 11, 13, 89, 97};
     private static final int[] HIGH = {2147483647, 2147483646, 1073741824, 1073741823, 715827882, 238609294};
     private static final String[] CHANGES = {"field", "system", "weights", "drift", "image", "goBack"};

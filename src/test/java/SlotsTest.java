@@ -14,11 +14,14 @@ public final class SlotsTest {
         addCancels();
         addRefuses();
         addIsFull();
+        whatWentIsForgotten();
+        eightTerms();
         termRefuses();
         timesRises();
         plusSums();
         plusOfItself();
         plusIsFull();
+        plusMayPassOverNine();
         plusRefuses();
         degreeOfPolynomial();
         leadsInOrders();
@@ -28,6 +31,8 @@ public final class SlotsTest {
         belongsToTheIdeal();
         standsWhileItIsTheBase();
         standsByItsOwnWeights();
+        standsBehindMoreMembers();
+        standsInAnotherField();
         keptStaysAsItWas();
         Due.end();
     }
@@ -221,6 +226,30 @@ public final class SlotsTest {
         polynomialIs(x, 0, 1, 6, 0, 1, 5, 0, 1, 4, 0, 2, 3, 0, 1, 2, 0, 1, 1, 0, 3, 0, 1, 1, 0, 0);
     }
 
+    private static void whatWentIsForgotten() {
+        OrderMover x = withPolynomial(1, 1, 0, 1, 0, HIGHEST);
+        x.add(0, 6, 0, HIGHEST);
+        Due.due("degree", x.degree(0), 1);
+        for (int order = 0; order < 5; order++) {
+            Due.due("leads", x.leads(0, order), 0);
+        }
+        Due.due("times y", x.times(0, 0, 1), 1);
+        polynomialIs(x, 0, 1, 1, 1);
+    }
+
+    private static void eightTerms() {
+        OrderMover x = withPolynomial(1, 0, 8, 1, 1, 7, 1, 2, 6, 1, 3, 5, 1, 4, 4, 1, 5, 3, 1, 6, 2, 1, 7, 1);
+        x.weights(1, 1);
+        int[] want = {0, 7, 0, 7, 0};
+        for (int order = 0; order < 5; order++) {
+            Due.due("leads in order " + order, x.leads(0, order), want[order]);
+        }
+        Due.due("degree", x.degree(0), 8);
+        Due.due("times", x.times(0, 1, 1), 8);
+        Due.due("all are led", x.belongs(0), 1);
+        Due.due("reduce", x.reduce(0, 2), 0);
+    }
+
     private static void termRefuses() {
         OrderMover x = withPolynomial(5, 2, 3);
         Due.due("term k lowest", x.term(0, LOWEST, 0), BAD);
@@ -289,6 +318,19 @@ public final class SlotsTest {
         Due.due("sixteen", x.plus(0, 1, 3), FULL);
         Due.due("as it was", x.size(0), 8);
         Due.due("as it was", x.term(0, 7, 2), 0);
+    }
+
+    /** The new terms come first, then as many of the old ones go. */
+    private static void plusMayPassOverNine() {
+        OrderMover x = withPolynomial(1, 0, 0, 1, 1, 0, 1, 2, 0, 1, 3, 0);
+        x.poly(1);
+        for (int i = 0; i < 4; i++) {
+            x.add(0, 2, 4 + i, 0);
+            x.add(1, 5, 4 + i, 0);
+            x.add(1, 3, 10 + i, 0);
+        }
+        Due.due("twelve on the way", x.plus(0, 1, 1), 8);
+        polynomialIs(x, 0, 3, 13, 0, 3, 12, 0, 3, 11, 0, 3, 10, 0, 1, 3, 0, 1, 2, 0, 1, 1, 0, 1, 0, 0);
     }
 
     private static void plusRefuses() {
@@ -476,6 +518,39 @@ public final class SlotsTest {
         x.put(1, 0, 0, 1);
         Due.due("another G", x.stands(0), 0);
         Due.due("another G", x.stands(1), 0);
+    }
+
+    private static void standsBehindMoreMembers() {
+        OrderMover x = new OrderMover();
+        x.system(2, 3);
+        x.put(1, 1, 1, 1);
+        Due.due("three", x.keepBase(0, 0), 3);
+        x.system(2, 2);
+        Due.due("two", x.keepBase(0, 0), 2);
+        Due.due("stands", x.stands(0), 1);
+        x.system(2, 3);
+        x.put(1, 1, 1, 1);
+        Due.due("the three do not", x.stands(0), 0);
+        x.keepBase(1, 0);
+        Due.due("but kept anew", x.stands(1), 1);
+        x.system(2, 2);
+        Due.due("nor the three now", x.stands(1), 0);
+        Due.due("the two do", x.stands(0), 1);
+    }
+
+    /** By 7: x x + 6 and y y + 5, which by 5 are x x + 1 and y y. */
+    private static void standsInAnotherField() {
+        OrderMover x = new OrderMover();
+        x.put(0, 0, 0, 6);
+        x.put(1, 0, 0, 5);
+        x.keepBase(0, 2);
+        x.image(0);
+        x.field(5);
+        Due.due("left over by 5 too", x.stands(0), 1);
+        x.field(7);
+        Due.due("and so they stay", x.stands(0), 1);
+        x.goBack(0);
+        Due.due("but the system goes back", x.stands(0), 0);
     }
 
     private static void keptStaysAsItWas() {
