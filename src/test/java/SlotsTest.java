@@ -246,6 +246,8 @@ public final class SlotsTest {
         }
         Due.due("degree", x.degree(0), 8);
         Due.due("times", x.times(0, 1, 1), 8);
+        Due.due("field", x.field(2), 7);
+        Due.due("all stay", x.size(0), 8);
         Due.due("all are led", x.belongs(0), 1);
         Due.due("reduce", x.reduce(0, 2), 0);
     }
