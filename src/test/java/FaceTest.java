@@ -27,6 +27,7 @@ public final class FaceTest {
         methods();
         classesInside();
         forbiddenWords();
+        shortMethods();
         Due.end();
     }
 
@@ -71,6 +72,7 @@ public final class FaceTest {
         for (Class<?> c : inside) {
             Due.holds(c + " is static and not public",
                     Modifier.isStatic(c.getModifiers()) && !Modifier.isPublic(c.getModifiers()));
+            Due.holds(c + " has at most twenty fields", c.getDeclaredFields().length <= 20);
             for (Method m : c.getDeclaredMethods()) {
                 Due.holds(m + " bears no public name", !(" " + METHODS).contains(" " + m.getName() + ":"));
                 Due.holds(m + " takes at most seven", m.getParameterCount() <= 7);
@@ -88,6 +90,20 @@ public final class FaceTest {
         while (imports.find()) {
             Due.holds("import of " + imports.group(1), IMPORTS.contains(imports.group(1)));
         }
+        Due.holds("no function whose name ends in Exact", !Pattern.compile("Exact\\s*\\(").matcher(text).find());
         Due.holds("the class is without arrows and method references", !text.contains("->") && !text.contains("::"));
+    }
+
+    /** A method begins at a line that ends in ") {" and is no statement, and ends at the next brace that stands as deep. */
+    private static void shortMethods() throws Exception {
+        List<String> lines = Files.readAllLines(SOURCE);
+        Pattern head = Pattern.compile("( {4}| {8})(?!if|for|while|switch|\\})\\w.*\\) \\{");
+        for (int k = 0; k < lines.size(); k++) {
+            Matcher m = head.matcher(lines.get(k));
+            if (m.matches()) {
+                int end = lines.subList(k, lines.size()).indexOf(m.group(1) + "}");
+                Due.holds(lines.get(k).strip() + " is short", end > 0 && end < 60);
+            }
+        }
     }
 }
