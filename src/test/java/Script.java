@@ -13,7 +13,7 @@ import java.util.regex.Pattern;
  * asks, must change nothing: all that can be seen is the same with the row and without it.
  */
 final class Script {
-    /** Rows that put into slot 0, by 7 or less: 1 + x + .. + x to the 7. */
+    /** Rows that put 1 + x + .. + x to the 7 into slot 0. */
     static final String EIGHT_TERMS = """
             poly(0) = 0
             add(0, 1, 0, 0) = 1; add(0, 1, 1, 0) = 2; add(0, 1, 2, 0) = 3; add(0, 1, 3, 0) = 4
