@@ -313,6 +313,10 @@ public final class TermsEdgesTest {
                 put(0, 0, 0, 1) = 0; count(7) = 0
                 put(0, 1, 0, 1) = 0; count(7) = 1; count(8) = 0
                 """);
+        Script.run("RADICAL: the slope of x x x, 3 x x, is no part of the next, 2 x + 2: else both have the root 1", """
+                system(3, 1) = 3; count(7) = 0
+                system(2, 1) = 2; put(0, 1, 0, 2) = 0; put(0, 0, 0, 4) = 0; count(8) = 2; root(0, 0) = 1; count(7) = 1
+                """);
     }
 
     private static void rootsRise() {
